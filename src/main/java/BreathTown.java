@@ -661,7 +661,7 @@ public final class BreathTown {
         }
 
         int byteAt(int k) {
-            return k < length ? cell(bytes, k) : NONE;
+            return k >= 0 && k < length && k < bytes.length ? bytes[k] : NONE;
         }
 
         private static boolean isLetter(int sign) {
@@ -737,10 +737,6 @@ public final class BreathTown {
             place += word.length();
             glued = place;
             return true;
-        }
-
-        boolean needWord(String word) {
-            return takeWord(word) || unexpected();
         }
 
         boolean atNumber() {
@@ -1049,9 +1045,11 @@ public final class BreathTown {
                 || !placeAsked("to", cell(draft.from, which), draft.to, which)
                 || !numberAsked("takes", 1, 4, draft.takes, which)
                 || !numberAsked("round", 1, MOST_ROUND, draft.rounds, which)
-                || !numberAsked("shift", 0, MOST_ROUND - 1, draft.shifts, which)
-                || !scan.needWord("wide")) {
+                || !numberAsked("shift", 0, MOST_ROUND - 1, draft.shifts, which)) {
                 return false;
+            }
+            if (!scan.takeWord("wide")) {
+                return scan.unexpected();
             }
             int round = cell(draft.rounds, which);
             setCell(draft.shifts, which, round > 0 ? cell(draft.shifts, which) % round : 0);
@@ -1070,8 +1068,8 @@ public final class BreathTown {
         }
 
         private boolean placeAsked(String word, int unlike, int[] row, int which) {
-            if (!scan.needWord(word)) {
-                return false;
+            if (!scan.takeWord(word)) {
+                return scan.unexpected();
             }
             int name = scan.name();
             if (name == NONE) {
@@ -1086,8 +1084,8 @@ public final class BreathTown {
         }
 
         private boolean numberAsked(String word, int least, int most, int[] row, int which) {
-            if (!scan.needWord(word)) {
-                return false;
+            if (!scan.takeWord(word)) {
+                return scan.unexpected();
             }
             int value = scan.number(least, most);
             setCell(row, which, value);
@@ -1740,20 +1738,36 @@ public final class BreathTown {
             return k % ROLL * PAIRS + from * MOST_PLACES;
         }
 
+        /** Whether as many as there are places stand in soonest from both slots on. */
+        private boolean areIn(int first, int second) {
+            int last = soonest.length - told.count(PLACES);
+            return first >= 0 && first <= last && second >= 0 && second <= last;
+        }
+
         private void waitOn(int k) {
-            for (int from = 0; from < MOST_PLACES; from++) {
-                for (int to = 0; to < MOST_PLACES; to++) {
-                    int hour = from == to ? k : cell(soonest, slot(k + 1, from) + to);
-                    setCell(soonest, slot(k, from) + to, hour);
+            int places = told.count(PLACES);
+            for (int from = 0; from < places; from++) {
+                int at = slot(k, from);
+                int behind = slot(k + 1, from);
+                if (!areIn(at, behind)) {
+                    return;
+                }
+                for (int to = 0; to < places; to++) {
+                    soonest[at + to] = from == to ? k : soonest[behind + to];
                 }
             }
         }
 
         private void passOn(int k, int takes, int from, int other) {
-            for (int to = 0; to < MOST_PLACES; to++) {
-                int hour = cell(soonest, slot(k + takes, other) + to);
-                if (hour < cell(soonest, slot(k, from) + to)) {
-                    setCell(soonest, slot(k, from) + to, hour);
+            int places = told.count(PLACES);
+            int at = slot(k, from);
+            int behind = slot(k + takes, other);
+            if (!areIn(at, behind)) {
+                return;
+            }
+            for (int to = 0; to < places; to++) {
+                if (soonest[behind + to] < soonest[at + to]) {
+                    soonest[at + to] = soonest[behind + to];
                 }
             }
         }
