@@ -6,6 +6,7 @@ final class ImageTest {
 
     public static void main(String[] args) {
         image();
+        hoursInTwoBytes();
         on();
         refused();
         status();
@@ -49,6 +50,22 @@ final class ImageTest {
         x.image();
         // v goes by t and s: there at 704
         octetsAre("with acts", x, ended(3, 32, 4, 47, 0, 2, 2, 192, 0, 1, 0, 0));
+    }
+
+    private static void hoursInTwoBytes() {
+        BreathTown x = Check.townOf("begin 255;");
+        int[] hours = {255, 256, 511, 512, 767, 768};
+        for (int k = 0; k < hours.length; k++) {
+            if (k > 0) {
+                x.go(hours[k] - hours[k - 1]);
+            }
+            x.image();
+            octetsAre("hour " + hours[k], x, ended(hours[k] >> 8, hours[k] & 255));
+        }
+        Check.due("on() of 9984", on(x, ended(39, 0)), true);
+        Check.due("has(3)", x.has(3), 9984);
+        x.image();
+        octetsAre("hour 9984", x, ended(39, 0));
     }
 
     private static boolean on(BreathTown x, int... bytes) {

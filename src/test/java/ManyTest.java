@@ -52,10 +52,13 @@ final class ManyTest {
         x = oneStreet("walker v broad 6 at a to b;walker w broad 6 at a to b;");
         x.send(0);
         rowsAre("free later", x, 2, 4, 0, 1, 4, 2);
-        // by the sum of arrivals: both orders end in 5, but the short one is better first
+        // by the last arrival first, then by their sum
         x = Check.townOf("place a;place b;place c;street s from a to b takes 1 round 1 shift 0 wide 9;"
             + "street t from b to c takes 3 round 1 shift 0 wide 9;walker v broad 9 at a to c;walker w broad 9 at a to b;");
-        rowsAre("least sum at last", x, 2, 4, 0, 1, 4, 2);
+        rowsAre("the last one first", x, 2, 4, 0, 1, 4, 2);
+        x = Check.townOf("place a;place b;place c;street s from a to b takes 1 round 1 shift 0 wide 9;"
+            + "street t from b to c takes 1 round 24 shift 13 wide tide/23*9;walker v broad 9 at a to c;walker w broad 9 at a to b;");
+        rowsAre("the least sum", x, 2, 11, 1, 0, 11, 1);
         x = Check.townOf("place a;place b;place c;street s from a to b takes 2 round 4 shift 0 wide 9-tide/2*9;"
             + "street t from a to c takes 1 round 1 shift 0 wide 9;street u from c to b takes 4 round 1 shift 0 wide 9;"
             + "walker v broad 5 at a to b;walker w broad 5 at a to b;walker z broad 5 at a to b;");
@@ -95,6 +98,11 @@ final class ManyTest {
         Check.town(x, "place a;place b;place c;place d;street s from a to d takes 4 round 1 shift 0 wide 9;");
         doctorsAre("the first three", x, 1, 4, 0, 1, 2);
         doctorsAre("three are not enough", x, 1, 3);
+        Check.town(x, "place a;place b;street s from a to b takes 2 round 3 shift 0 wide 9-tide*9;");
+        doctorsAre("never two hours", x, 1, 400, 0, 1);
+        Check.town(x, "place a;place b;street s from a to b takes 2 round 3 shift 0 wide 9-tide/2*9;");
+        doctorsAre("two hours of three, within 3", x, 1, 3, 0, 1);
+        doctorsAre("two hours of three, within 4", x, 1, 4, 0);
         Check.town(x, "place a;");
         doctorsAre("one place", x, 99, 0, 0);
         int[][] wrong = {{0, 0}, {100, 0}, {-1, 0}, {1, -1}, {1, 401}, {Integer.MAX_VALUE, 0}, {1, Integer.MIN_VALUE}};

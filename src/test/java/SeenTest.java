@@ -41,7 +41,9 @@ final class SeenTest {
         Check.due("see() of street 255", see(x, 255, 0, 0, 3), NONE);
         Check.due("see() of width 100", see(x, 0, 0, 0, 100), NONE);
         Check.due("see() of 21", see(x, rows(21)), NONE);
-        Check.due("status(1)", x.status(1), 7);
+        Check.due("see() of a second width 100", see(x, 0, 0, 0, 3, 0, 0, 0, 100), NONE);
+        Check.due("see() of a second street 4", see(x, 0, 0, 0, 3, 4, 0, 0, 3), NONE);
+        Check.due("status(1)", x.status(1), 9);
         Check.due("has(7)", x.has(7), 2);
         Check.due("the tape goes", x.feed(0, 0, 0, 0, 0), 20);
         Check.due("see() of 5", x.see(), 5);
@@ -78,6 +80,9 @@ final class SeenTest {
         see(x, 1, 1, 0, 5, 0, 0, 0, 4);
         shiftsAre("seen among others", x, 1, 3);
         shiftsAre("never so wide", x, 0);
+        see(x, 0, 0, 5, 6, 1, 1, 0, 5, 0, 0, 6, 9);
+        shiftsAre("seen in three rows", x, 0, 1);
+        shiftsAre("seen in the second row", x, 1, 3);
         x.hold(1, 1);
         x.go(1);
         shiftsAre("held", x, 1, 3);

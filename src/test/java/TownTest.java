@@ -141,6 +141,8 @@ final class TownTest {
         right(street + "((((((1)))+(((1))))))+((((((2))))));", 3);
         right(street + "min(1,max(2,min(3,(4+(5+(6))))));", 3);
         faulty(4, street + "min(1,max(2,min(3,(4+(5+(6+min^(1");
+        right(street + "((((min((1),2)))));", 3);
+        right(street + "((((max(1,(2))))));", 3);
         faulty(4, street + "((((((min ^(1,2)");
         faulty(1, street + "((((((min ^1,2)");
     }

@@ -150,6 +150,16 @@ final class WaysTest {
         x = Check.townOf("place a;place b;street s from a to b takes 1 round 1 shift 0 wide max(day-16,min(1,clock/23))*9;"
             + "walker w broad 5 at a to b;begin 6;");
         Check.due("parade(0, 9) from 6", x.parade(0, 9), NONE);
+        x.go(1);
+        Check.due("parade(0, 9) from 7", x.parade(0, 9), 407);
+        // by the first street three hours, so that the second one is entered in hour 4
+        x = Check.townOf("place a;place b;place c;street s from a to b takes 3 round 1 shift 0 wide 9;"
+            + "street t from b to c takes 1 round 5 shift 0 wide tide/4*9;walker w broad 5 at a to c;");
+        Check.due("parade(0, 0) by two", x.parade(0, 0), 1);
+        // from now on, not from when he is free
+        x.send(0);
+        Check.due("way back", x.way(0, NONE), 13);
+        Check.due("parade(0, 0) while not free", x.parade(0, 0), 4);
     }
 
     private static void wrongInputs() {
