@@ -887,7 +887,13 @@ public final class BreathTown {
             if (scan.takeWord("day")) {
                 return took(DAY);
             }
-            return asking ? askedPart(open) : toldPart();
+            if (asking) {
+                return askedPart(open);
+            }
+            if (scan.takeWord("tide")) {
+                return took(TIDE);
+            }
+            return scan.takeWord("round") ? took(ROUND) : scan.unexpected();
         }
 
         private boolean pair(int open) {
@@ -896,13 +902,6 @@ public final class BreathTown {
             }
             return mayOpen(open) && scan.takeSign('(') && sum(open + 1) && scan.needSign(',')
                 && sum(open + 1) && scan.needSign(')');
-        }
-
-        private boolean toldPart() {
-            if (scan.takeWord("tide")) {
-                return took(TIDE);
-            }
-            return scan.takeWord("round") ? took(ROUND) : scan.unexpected();
         }
 
         private boolean askedPart(int open) {
