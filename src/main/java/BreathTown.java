@@ -602,7 +602,7 @@ public final class BreathTown {
 
         /** Which of a kind bears the name; NONE, if none does. */
         int named(int kind, int name) {
-            for (int which = 0; which < count(kind); which++) {
+            for (int which = 0; which < cell(counts, kind); which++) {
                 if (cell(names, kind * MOST_STREETS + which) == name) {
                     return which;
                 }
