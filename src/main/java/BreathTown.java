@@ -824,6 +824,14 @@ public final class BreathTown {
             this.asking = asking;
         }
 
+        boolean readSum() {
+            return sum(0);
+        }
+
+        boolean readTest() {
+            return test(0);
+        }
+
         private boolean mayOpen(int open) {
             return open < MOST_OPEN || scan.fail(TOO_DEEP, scan.place);
         }
@@ -833,7 +841,7 @@ public final class BreathTown {
             return true;
         }
 
-        boolean sum(int open) {
+        private boolean sum(int open) {
             if (!product(open)) {
                 return false;
             }
@@ -920,7 +928,7 @@ public final class BreathTown {
             return scan.unexpected();
         }
 
-        boolean test(int open) {
+        private boolean test(int open) {
             if (!both(open)) {
                 return false;
             }
@@ -997,23 +1005,18 @@ public final class BreathTown {
                     scan.fail(TOO_MANY, scan.place);
                     return NONE;
                 }
-                if (!statement() || !scan.needSign(';')) {
+                boolean isTold = scan.atWord("place") ? newName("place", PLACES, MOST_PLACES) != NONE
+                    : scan.atWord("street") ? streetTold()
+                    : scan.atWord("walker") ? walkerTold()
+                    : beginTold();
+                if (!isTold || !scan.needSign(';')) {
                     return NONE;
                 }
             }
             return NONE;
         }
 
-        private boolean statement() {
-            if (scan.atWord("place")) {
-                return hasRoom(PLACES, MOST_PLACES) && scan.takeWord("place") && newName(PLACES) != NONE;
-            }
-            if (scan.atWord("street")) {
-                return hasRoom(STREETS, MOST_STREETS) && scan.takeWord("street") && streetTold();
-            }
-            if (scan.atWord("walker")) {
-                return hasRoom(WALKERS, MOST_WALKERS) && scan.takeWord("walker") && walkerTold();
-            }
+        private boolean beginTold() {
             if (!scan.takeWord("begin")) {
                 return scan.unexpected();
             }
@@ -1021,12 +1024,13 @@ public final class BreathTown {
             return draft.begin != NONE;
         }
 
-        private boolean hasRoom(int kind, int most) {
-            return draft.count(kind) < most || scan.fail(TOO_MANY, scan.place);
-        }
-
-        private int newName(int kind) {
-            int name = scan.name();
+        /** Takes a kind's word, if there may be one more of it, and its name; the newly named one's number. */
+        private int newName(String word, int kind, int most) {
+            if (draft.count(kind) >= most) {
+                scan.fail(TOO_MANY, scan.place);
+                return NONE;
+            }
+            int name = scan.takeWord(word) ? scan.name() : NONE;
             if (name == NONE) {
                 return NONE;
             }
@@ -1038,7 +1042,7 @@ public final class BreathTown {
         }
 
         private boolean streetTold() {
-            int which = newName(STREETS);
+            int which = newName("street", STREETS, MOST_STREETS);
             if (which == NONE
                 || !placeAsked("from", NONE, draft.from, which)
                 || !placeAsked("to", cell(draft.from, which), draft.to, which)
@@ -1053,13 +1057,13 @@ public final class BreathTown {
             int round = cell(draft.rounds, which);
             setCell(draft.shifts, which, round > 0 ? cell(draft.shifts, which) % round : 0);
             setCell(draft.sumStarts, which, draft.sums.length);
-            boolean isRead = sums.sum(0);
+            boolean isRead = sums.readSum();
             setCell(draft.sumEnds, which, draft.sums.length);
             return isRead;
         }
 
         private boolean walkerTold() {
-            int which = newName(WALKERS);
+            int which = newName("walker", WALKERS, MOST_WALKERS);
             return which != NONE
                 && numberAsked("broad", 1, MOST_WIDTH, draft.broads, which)
                 && placeAsked("at", NONE, draft.places, which)
@@ -1907,7 +1911,7 @@ public final class BreathTown {
                 scan.unexpected();
                 return NONE;
             }
-            boolean isRead = head <= OFTEN ? reader.test(0) : reader.sum(0);
+            boolean isRead = head <= OFTEN ? reader.readTest() : reader.readSum();
             if (!isRead) {
                 return NONE;
             }
