@@ -2,8 +2,15 @@
 final class Check {
     static int wrong = 0;
     static int asked = 0;
+    private static String sentence = "";
 
     private Check() {
+    }
+
+    /** From here on answers are due by these words of the document, which a wrong answer names. */
+    static void stands(int promise, String words) {
+        Document.quote(promise, words);
+        sentence = "[promise " + promise + ": " + words + "] ";
     }
 
     static void due(String call, long got, long want) {
@@ -11,7 +18,7 @@ final class Check {
         if (got != want) {
             wrong++;
             if (wrong <= 60) {
-                System.out.println(call + " answered " + got + ", due is " + want);
+                System.out.println(sentence + call + " answered " + got + ", due is " + want);
             }
         }
     }
@@ -57,6 +64,44 @@ final class Check {
     static long ask(BreathTown x, String text) {
         tape(x, text);
         return x.ask();
+    }
+
+    /** A text with a fault has it where the sign ^ stands, which is no part of the text. */
+    static int markedPlace(String marked) {
+        return marked.indexOf('^');
+    }
+
+    static String unmarked(String marked) {
+        int place = markedPlace(marked);
+        return marked.substring(0, place) + marked.substring(place + 1);
+    }
+
+    /** Such a text is no town: its fault, and where. */
+    static void faultyTown(int kind, String marked) {
+        BreathTown x = new BreathTown();
+        due("town of " + marked, town(x, unmarked(marked)), BreathTown.NONE);
+        due("fault(0) of " + marked, x.fault(0), kind);
+        due("fault(1) of " + marked, x.fault(1), markedPlace(marked));
+    }
+
+    static void rightTown(String text, int statements) {
+        BreathTown x = new BreathTown();
+        due("town of " + text, town(x, text), statements);
+        due("fault(0) of " + text, x.fault(0), 0);
+        due("fault(1) of " + text, x.fault(1), BreathTown.NONE);
+    }
+
+    /** Such a text is no question: its fault, and where. */
+    static void faultyQuestion(BreathTown x, int kind, String marked) {
+        due("ask of " + marked, ask(x, unmarked(marked)), BreathTown.NOTHING);
+        due("fault(0) of " + marked, x.fault(0), kind);
+        due("fault(1) of " + marked, x.fault(1), markedPlace(marked));
+    }
+
+    static void rightQuestion(BreathTown x, String text, long answer) {
+        due("ask of " + text, ask(x, text), answer);
+        due("fault(0) of " + text, x.fault(0), 0);
+        due("fault(1) of " + text, x.fault(1), BreathTown.NONE);
     }
 
     /** Ends the test: 1 if an answer was not due. */
