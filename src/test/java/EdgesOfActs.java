@@ -12,6 +12,7 @@ final class EdgesOfActs {
     static void all() {
         hoursGoBy();
         goOfNone();
+        refusedAct();
         sent();
         sentBehind9999();
         sendOfNone();
@@ -78,6 +79,26 @@ final class EdgesOfActs {
         Check.due("go(1) in 9999", x.go(1), NONE);
         Check.due("status(2)", x.status(2), 1);
         Check.due("has(3) stays", x.has(3), 9999);
+    }
+
+    private static void refusedAct() {
+        Check.stands(22, "refused (2), when it can't be.");
+        String town = TWO + "street s from a to b takes 1" + OPEN + "walker w broad 10 at a to b;";
+        BreathTown x = Check.townOf(town);
+        for (int k = 0; k < 20; k++) {
+            x.go(1);
+        }
+        x.go(0);
+        x.send(0);
+        x.hold(0, 0);
+        x.days(0);
+        Check.due("status(2)", x.status(2), 4);
+        Check.due("has(3)", x.has(3), 20);
+        // none of the twenty ACTS has made room for one that was refused
+        for (int k = 19; k >= 0; k--) {
+            Check.due("undo()", x.undo(), true);
+            Check.due("has(3)", x.has(3), k);
+        }
     }
 
     private static void sent() {

@@ -246,6 +246,9 @@ final class EdgesOfQuestions {
         right("most width min(0,1)", 23);
         right("first width tide 1=11", 38);
         right("most width width 9", 23);
+        // six deep, with a test, a sum, a product and a min waiting: 5, then 1 more seven times
+        right("often 1=2 or 1=1 and 12=" + "1+1*min(99,".repeat(6) + "1+1*5" + ")".repeat(6), 201);
+        right("often 1=2 or 1=1 and 13=" + "1+1*min(99,".repeat(6) + "1+1*5" + ")".repeat(6), 0);
     }
 
     private static void parts() {
@@ -354,6 +357,8 @@ final class EdgesOfQuestions {
         }
         for (String none : new String[] {"width 12", "tide 12", "passes 6", "passes 11", "passes 12", "width(0-1)", "tide(0-1)", "passes(0-1)"}) {
             Check.rightQuestion(x, "most " + none, 0);
+            // also when widths, tides and streets passed are asked for at once
+            Check.rightQuestion(x, "most " + none + "+0*(width 0+tide 0+passes 0)", 0);
         }
         Check.rightQuestion(x, "most width 11+tide 11+passes 5", 12 + 47 + 1);
     }

@@ -297,6 +297,9 @@ final class EdgesOfSeen {
         see(x, 0, 0, 0, 0);
         // in 1 their tides are 1 2 3: 1 2 2; in 2 they are 2 3 4: 0 1 1; in 3 they are 3 4 5: 2 2 2; in 5: 5 0 1: 2 0 1
         tellingIs("of three shifts", x, 0, 5, 1);
+        // seen 1 in hour 0 are 3 4 5: in 1 their tides are 4 5 0: 2 2 0; in 2 they are 5 0 1: 1 0 0; in 3 they are 0 1 2
+        see(x, 0, 0, 0, 1);
+        tellingIs("of three other shifts", x, 0, 3, 1);
     }
 
     private static void tellingFirst() {

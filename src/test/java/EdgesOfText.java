@@ -346,6 +346,10 @@ final class EdgesOfText {
         width("max(0-4,0-5)+9", 5);
         width("min(0-4,0-5)+9", 4);
         width("min(1+2*3,9)*max(tide,round)", 49);
+        // six deep, with a sum, a product and a min waiting at each: 5, then 1 more seven times
+        width("1+1*min(99,".repeat(6) + "1+1*5" + ")".repeat(6), 12);
+        // 8, then by 20 less twice as much, from 0 on: 4, 12, -4, 20, -20, 20
+        width("20-2*max(0,".repeat(6) + "20-2*6" + ")".repeat(6), 20);
         Check.faultyTown(1, STREET + "(^);");
         Check.faultyTown(1, STREET + "(3^;");
         Check.faultyTown(1, STREET + "(3^,4);");

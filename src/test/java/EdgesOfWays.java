@@ -360,12 +360,14 @@ final class EdgesOfWays {
     private static void stuckAnswers() {
         Check.stands(17, "STUCK: the HOUR (what 0), the STREET (1).");
         BreathTown x = Check.townOf(FOUR + street("s", "a", "b", 1, OPEN) + street("t", "b", "c", 1, " round 1 shift 0 wide 5;")
-            + "walker w broad 9 at a to c;walker v broad 5 at a to c;walker u broad 1 at a to d;begin 999;");
+            + "walker w broad 9 at a to c;walker v broad 5 at a to c;walker u broad 1 at a to d;walker z broad 9 at a to b;begin 999;");
         stuckIs("w", x, 0, 1000, 1);
+        // who goes a part of it alone is not stuck where another one was
+        stuckIs("z behind w", x, 3, NONE, NONE);
         Check.stands(17, "NONE when he gets there, there is no such WAY, there is none such, or for others.");
         stuckIs("he gets there", x, 1, NONE, NONE);
         stuckIs("there is no such WAY", x, 2, NONE, NONE);
-        for (int walker : new int[] {-1, 3, 6, MOST, LEAST}) {
+        for (int walker : new int[] {-1, 4, 6, MOST, LEAST}) {
             stuckIs("none such", x, walker, NONE, NONE);
         }
         for (int what : new int[] {-1, 2, 3, MOST, LEAST}) {
@@ -436,8 +438,9 @@ final class EdgesOfWays {
         Check.stands(19, "each is wide enough for him as long as it takes and n HOURS more;");
         // s is 9 wide in the tides 0 to 4 of 10
         String five = " round 10 shift 0 wide max(5-tide,0)*9;";
+        BreathTown x;
         for (int takes = 1; takes <= 4; takes++) {
-            BreathTown x = Check.townOf(TWO + street("s", "a", "b", takes, five) + "walker w broad 9 at a to b;walker v broad 10 at a to b;");
+            x = Check.townOf(TWO + street("s", "a", "b", takes, five) + "walker w broad 9 at a to b;walker v broad 10 at a to b;");
             for (int n = 0; n <= 6; n++) {
                 Check.due("takes " + takes + ", " + n + " more, of five", x.parade(0, n), takes + n <= 5 ? 0 : NONE);
                 Check.due("takes " + takes + ", " + n + " more, of four", x.parade(1, n), takes + n <= 4 ? 0 : NONE);
@@ -459,6 +462,15 @@ final class EdgesOfWays {
         Check.due("in 6 with 1 more", Check.townOf(both + begin(6)).parade(0, 1), 28);
         Check.due("in 6 with none", Check.townOf(both + begin(6)).parade(0, 0), 6);
         Check.due("in 7 with none", Check.townOf(both + begin(7)).parade(0, 0), 28);
+        // and not the last street alone: s is wide in the tides 0 to 4, t always
+        x = Check.townOf("place a;place b;place c;" + street("s", "a", "b", 2, five) + street("t", "b", "c", 1, OPEN)
+            + "walker w broad 9 at a to c;walker v broad 9 at c to a;");
+        Check.due("s first, with 3 more", x.parade(0, 3), 0);
+        Check.due("s first, with 4 more", x.parade(0, 4), NONE);
+        // v is in s from the second hour on: in 10 to 14, so he sets out in 9
+        Check.due("s last, with 2 more", x.parade(1, 2), 0);
+        Check.due("s last, with 3 more", x.parade(1, 3), 9);
+        Check.due("s last, with 4 more", x.parade(1, 4), NONE);
     }
 
     private static void processionStreets() {

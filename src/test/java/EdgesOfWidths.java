@@ -126,6 +126,13 @@ final class EdgesOfWidths {
         }
         Check.town(x, TWO + "street s from a to b takes 1 round 48 shift 0 wide tide+2;");
         Check.due("width(0, 0) of another town", x.width(0, 0), 2);
+        // of one town by one shift, of the next one by another
+        for (int shift = 0; shift < 48; shift++) {
+            x = one("takes 1 round 48 shift 47 wide tide");
+            Check.due("width(0, 0) of shift 47", x.width(0, 0), 47);
+            Check.town(x, TWO + "street s from a to b takes 1 round 48 shift " + shift + " wide tide/2;");
+            Check.due("width(0, 0) of another town, shift " + shift, x.width(0, 0), shift / 2);
+        }
     }
 
     private static void widthOfNone() {

@@ -17,17 +17,11 @@ final class QuestionTest {
     }
 
     private static void answer(String text, long want) {
-        Check.due(text, Check.ask(X, text), want);
-        Check.due("fault(0) of " + text, X.fault(0), 0);
-        Check.due("fault(1) of " + text, X.fault(1), NONE);
+        Check.rightQuestion(X, text, want);
     }
 
     private static void faulty(int kind, String marked) {
-        int place = marked.indexOf('^');
-        String text = marked.substring(0, place) + marked.substring(place + 1);
-        Check.due(marked, Check.ask(X, text), BreathTown.NOTHING);
-        Check.due("fault(0) of " + marked, X.fault(0), kind);
-        Check.due("fault(1) of " + marked, X.fault(1), place);
+        Check.faultyQuestion(X, kind, marked);
     }
 
     private static void answers() {

@@ -16,23 +16,11 @@ final class TownTest {
     }
 
     private static void right(String text, int statements) {
-        BreathTown x = new BreathTown();
-        Check.due("town of " + text, Check.town(x, text), statements);
-        Check.due("fault(0) of " + text, x.fault(0), 0);
-        Check.due("fault(1) of " + text, x.fault(1), BreathTown.NONE);
+        Check.rightTown(text, statements);
     }
 
-    /** The text has its fault where the sign ^ stands, which is no part of it. */
     private static void faulty(int kind, String marked) {
-        int place = marked.indexOf('^');
-        String text = marked.substring(0, place) + marked.substring(place + 1);
-        BreathTown x = new BreathTown();
-        Check.due("town of " + marked, Check.town(x, text), BreathTown.NONE);
-        Check.due("fault(0) of " + marked, x.fault(0), kind);
-        Check.due("fault(1) of " + marked, x.fault(1), place);
-        Check.due("fault(2)", x.fault(2), BreathTown.NONE);
-        Check.due("fault(-1)", x.fault(-1), BreathTown.NONE);
-        Check.due("status(1)", x.status(1), 1);
+        Check.faultyTown(kind, marked);
     }
 
     private static void rightTexts() {
