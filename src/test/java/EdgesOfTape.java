@@ -103,24 +103,21 @@ final class EdgesOfTape {
             Check.due("letter(0, 0, " + k + ")", x.letter(0, 0, k), k + 1);
         }
         Check.due("letter(0, 1, 0)", x.letter(0, 1, 0), 7);
-        // a number below 0 has a byte from 128 on ahead: the image of hour 255 ends with 163 -> 238 -> 216 -> 648 mod 251
-        Check.due("the image's first bytes", (3 * ((3 * 163) % 251) + 255) % 251, 216);
+        // bytes from 128 on, in images: of hour 255 and the shift 0, its last byte is 146 by 163, 238, 216
         Check.town(x, "place a;place b;street s from a to b takes 1 round 48 shift 0 wide 1;");
-        // bytes 0, 255, 0 and the last one, by 216 -> 648 mod 251 = 146
-        Check.due("feed", x.feed(0x00ff0092, -1, -1, -1, -1), 20);
+        Check.due("feed of 0 255 0 146", x.feed(0x00ff0092, -1, -1, -1, -1), 20);
         x.end(4);
         Check.due("on", x.on(), true);
         Check.due("has(3)", x.has(3), 255);
-        // the same town in hour 0 with the shift 5: 163 238 212 (636 + 5) mod 251 = 139, a byte above 127 below it
-        Check.due("feed", x.feed(0x0000058b, 0, 0, 0, 0), 20);
+        // of hour 0 and the shift 5, it is 139 by 163, 238, 212
+        Check.due("feed of 0 0 5 139", x.feed(0x0000058b, 0, 0, 0, 0), 20);
         x.end(4);
         Check.due("on", x.on(), true);
         Check.due("street(0, 4)", x.street(0, 4), 5);
-        // one street and one walker, hour 255: its fifth byte, the walker's place, is the highest of the second number
-        Check.town(x, "place a;place b;place c;place d;street s from a to b takes 1 round 48 shift 0 wide 1;"
+        // of two shifts and a walker, it is 192 by 163, 238, 212, 134, 151, 202, 105, 64: the highest of a number below 0
+        Check.town(x, "place a;place b;street s from a to b takes 1 round 48 shift 0 wide 1;"
             + "street t from a to b takes 1 round 48 shift 0 wide 1;walker w broad 1 at a to b;");
-        // 0 0 | 0 0 | 0 1 0 0 and by 238 212 134 151 | 202 105 64 192 the last one, which is the third number's highest
-        Check.due("feed", x.feed(0, 0x00010000, 0xc0000000, Integer.MAX_VALUE, Integer.MIN_VALUE), 20);
+        Check.due("feed of 0 0 0 0 0 1 0 0 192", x.feed(0, 0x00010000, 0xc0000000, Integer.MAX_VALUE, Integer.MIN_VALUE), 20);
         x.end(9);
         Check.due("on", x.on(), true);
     }
